@@ -172,7 +172,7 @@ public final class DocTrees {
         // number is never above the other: raising it can't pass the place where the ways meet.
         int left = a;
         int right = b;
-        for (int step = 0; step < PLACES && left != right; step++) {
+        for (int step = 0; step < 2 * CAPACITY && left != right; step++) {
             if (left > right) {
                 left = parentOf[left];
             } else {
